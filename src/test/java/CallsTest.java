@@ -6,6 +6,8 @@ public final class CallsTest {
     private static final int CALLS = 512;
     private static final int METHODS = 11;
     private static final int POINTS = 12;
+    private static final int MOST_EDGES = 30;
+    private static final int SHOWN = 20;
     // Far above the second or so that the test needs: reached only by a call that does not end.
     private static final long MOST_MILLIS = 120_000;
     private static final int[] NUMBERS = {Integer.MIN_VALUE, Integer.MIN_VALUE + 1, Integer.MIN_VALUE + 11,
@@ -37,6 +39,8 @@ public final class CallsTest {
         only512Changes();
         only512Refusals();
         anyArgumentsInAnyState();
+        anyArgumentsWithAnyCountOfEdges();
+        anyNumberNearAndFar();
         finished = true;
     }
 
@@ -98,6 +102,53 @@ public final class CallsTest {
         }
     }
 
+    private static void anyArgumentsWithAnyCountOfEdges() {
+        for (int count = 0; count <= MOST_EDGES; count++) {
+            for (int u : NUMBERS) {
+                for (int v : NUMBERS) {
+                    LevelForests x = withEdges(count);
+                    due("edges()", x.edges(), count);
+                    for (int method = METHODS - 1; method >= 0; method--) {
+                        call(x, method, u, v);
+                    }
+                }
+            }
+        }
+    }
+
+    /** So many edges, taken all over the graph: a step of 25 meets each of the 66 pairs once. */
+    private static LevelForests withEdges(int count) {
+        LevelForests x = new LevelForests();
+        for (int i = 0; i < count; i++) {
+            int pair = 25 * i % 66;
+            int u = pair % POINTS;
+            int step = pair / POINTS + 1;
+            x.link(u, (u + step) % POINTS);
+        }
+        return x;
+    }
+
+    private static void anyNumberNearAndFar() {
+        LevelForests x = withEdges(20);
+        for (int number = -70_000; number <= 70_000; number++) {
+            callWith(x, number);
+        }
+        for (int bit = 4; bit < 32; bit++) {
+            for (int low = -POINTS; low <= POINTS; low++) {
+                callWith(x, (1 << bit) + low);
+                callWith(x, -(1 << bit) + low);
+            }
+        }
+    }
+
+    private static void callWith(LevelForests x, int number) {
+        for (int method = 0; method < METHODS; method++) {
+            call(x, method, number, number);
+            call(x, method, number, 11);
+            call(x, method, 0, number);
+        }
+    }
+
     private static int call(LevelForests x, int method, int u, int v) {
         return switch (method) {
             case 0 -> x.link(u, v);
@@ -117,7 +168,9 @@ public final class CallsTest {
     private static void due(String what, int got, int want) {
         if (got != want) {
             wrong++;
-            System.out.println(what + " answered " + got + ", due is " + want);
+            if (wrong <= SHOWN) {
+                System.out.println(what + " answered " + got + ", due is " + want);
+            }
         }
     }
 }

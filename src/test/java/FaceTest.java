@@ -23,6 +23,8 @@ public final class FaceTest {
         "public int LevelForests.isolate(int)",
         "public int LevelForests.greatest()");
 
+    private static int wrong = 0;
+
     public static void main(String[] args) {
         Set<String> seen = new TreeSet<>();
         for (Constructor<?> c : LevelForests.class.getDeclaredConstructors()) {
@@ -34,20 +36,35 @@ public final class FaceTest {
         for (Method m : LevelForests.class.getDeclaredMethods()) {
             add(seen, m.getModifiers(), m.toString());
         }
-        boolean good = true;
-        if (!seen.equals(FACE)) {
-            good = false;
-            System.out.println("the face is " + seen + ", due is " + new TreeSet<>(FACE));
-        }
-        int modifiers = LevelForests.class.getModifiers();
-        if (!Modifier.isPublic(modifiers) || !Modifier.isFinal(modifiers)) {
-            good = false;
-            System.out.println("the class is not public and final");
-        }
-        if (good) {
-            System.out.println("the face is as due");
-        } else {
+        due("the face", seen, new TreeSet<>(FACE));
+        Class<LevelForests> type = LevelForests.class;
+        due("public", Modifier.isPublic(type.getModifiers()), true);
+        due("final", Modifier.isFinal(type.getModifiers()), true);
+        due("the class above", type.getSuperclass(), Object.class);
+        due("interfaces", type.getInterfaces().length, 0);
+        due("classes inside", type.getDeclaredClasses().length, 0);
+        due("package", type.getPackageName(), "");
+        due("BAD as a label", constantName(-1), "BAD");
+        due("FULL as a label", constantName(-2), "FULL");
+        if (wrong != 0) {
             System.exit(1);
+        }
+        System.out.println("the face is as due");
+    }
+
+    // Only a constant of the compiler's can be a label: without one this does not compile.
+    private static String constantName(int answer) {
+        return switch (answer) {
+            case LevelForests.BAD -> "BAD";
+            case LevelForests.FULL -> "FULL";
+            default -> "none";
+        };
+    }
+
+    private static void due(String what, Object got, Object want) {
+        if (!got.equals(want)) {
+            wrong++;
+            System.out.println(what + " is " + got + ", due is " + want);
         }
     }
 

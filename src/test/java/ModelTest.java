@@ -3,14 +3,17 @@ import java.util.Arrays;
 import java.util.List;
 
 /**
- * Long mixed runs against a model that holds the graph in another way: a list of edges, and labels
- * that are spread over it until none changes. The model answers what an edge's going does by
- * counting parts with and without it.
+ * Long mixed runs, runs that fill the graph and empty it again and again, and every graph on a few
+ * points, against a model that holds the graph in another way: a list of edges, and labels that are
+ * spread over it until none changes. The model answers what an edge's going does by counting parts
+ * with and without it.
  */
 public final class ModelTest {
     private static final int POINTS = 12;
     private static final int CALLS = 512;
     private static final int RUNS = 1500;
+    private static final int WAVES = 500;
+    private static final int MOST_EDGES = 30;
     private static final int SHOWN = 20;
 
     private static int wrong = 0;
@@ -22,6 +25,11 @@ public final class ModelTest {
         for (int run = 0; run < RUNS && wrong < SHOWN; run++) {
             oneRun(run);
         }
+        for (int run = 0; run < WAVES && wrong < SHOWN; run++) {
+            oneRunOfWaves(run);
+        }
+        everyGraphOn(0, 3, 4, 7, 11);
+        everyGraphOn(11, 2, 10, 1, 6);
         System.out.println(wrong == 0 ? "all answers are as due" : wrong + " answers are not as due");
         if (wrong != 0) {
             System.exit(1);
@@ -86,6 +94,99 @@ public final class ModelTest {
         }
     }
 
+    // Fills the graph and empties it in another order, with a look at it after each change: a forest
+    // that an object keeps beside its edges has to find a way round for edge after edge.
+    private static void oneRunOfWaves(int run) {
+        LevelForests x = new LevelForests();
+        ModelTest model = new ModelTest();
+        boolean filling = true;
+        for (int calls = 0; calls + 2 <= CALLS; calls += 2) {
+            String told = "wave run " + run + ", call " + calls + ": ";
+            if (filling) {
+                int u = next(POINTS);
+                int v = (u + 1 + next(POINTS - 1)) % POINTS;
+                due(told + "link(" + u + ", " + v + ")", x.link(u, v), model.link(u, v));
+            } else {
+                int[] edge = model.edges.get(next(model.edges.size()));
+                int u = edge[0];
+                int v = edge[1];
+                due(told + "cut(" + u + ", " + v + ")", x.cut(u, v), model.cut(u, v));
+            }
+            dueOfOne(told + "after it, ", x, model, next(7), next(POINTS), next(POINTS));
+            if (model.edges.size() == MOST_EDGES) {
+                filling = false;
+            } else if (model.edges.isEmpty()) {
+                filling = true;
+            }
+        }
+    }
+
+    private static void dueOfOne(String told, LevelForests x, ModelTest model, int kind, int u, int v) {
+        switch (kind) {
+            case 0 -> due(told + "connected(" + u + ", " + v + ")", x.connected(u, v), model.connected(u, v));
+            case 1 -> due(told + "part(" + u + ")", x.part(u), model.part(u));
+            case 2 -> due(told + "parts()", x.parts(), model.parts());
+            case 3 -> due(told + "isBridge(" + u + ", " + v + ")", x.isBridge(u, v), model.isBridge(u, v));
+            case 4 -> due(told + "spare()", x.spare(), model.spare());
+            case 5 -> due(told + "greatest()", x.greatest(), model.greatest());
+            default -> due(told + "edges()", x.edges(), model.edges.size());
+        }
+    }
+
+    /** Every set of edges between these points; on each, every call on two of them. */
+    private static void everyGraphOn(int... points) {
+        List<int[]> pairs = new ArrayList<>();
+        for (int i = 0; i < points.length; i++) {
+            for (int j = i + 1; j < points.length; j++) {
+                pairs.add(new int[] {points[i], points[j]});
+            }
+        }
+        for (int set = 0; set < 1 << pairs.size() && wrong < SHOWN; set++) {
+            ModelTest model = new ModelTest();
+            for (int i = 0; i < pairs.size(); i++) {
+                if ((set >> i & 1) == 1) {
+                    model.edges.add(pairs.get(i));
+                }
+            }
+            dueOfGraph(model, points);
+        }
+    }
+
+    private static void dueOfGraph(ModelTest model, int[] points) {
+        String told = "edges " + Arrays.deepToString(model.edges.toArray()) + ": ";
+        LevelForests x = model.made();
+        dueOfOne(told, x, model, 2, 0, 0);
+        dueOfOne(told, x, model, 4, 0, 0);
+        dueOfOne(told, x, model, 5, 0, 0);
+        dueOfOne(told, x, model, 6, 0, 0);
+        for (int u : points) {
+            dueOfOne(told, x, model, 1, u, 0);
+            due(told + "isolate(" + u + ")", model.made().isolate(u), model.copy().isolate(u));
+            for (int v : points) {
+                String call = "(" + u + ", " + v + ")";
+                dueOfOne(told, x, model, 0, u, v);
+                dueOfOne(told, x, model, 3, u, v);
+                due(told + "isEdge" + call, x.isEdge(u, v), model.find(u, v) >= 0);
+                due(told + "link" + call, model.made().link(u, v), model.copy().link(u, v));
+                due(told + "cut" + call, model.made().cut(u, v), model.copy().cut(u, v));
+            }
+        }
+    }
+
+    private ModelTest copy() {
+        ModelTest same = new ModelTest();
+        same.edges.addAll(edges);
+        return same;
+    }
+
+    private LevelForests made() {
+        LevelForests x = new LevelForests();
+        for (int[] e : edges) {
+            x.link(e[0], e[1]);
+        }
+        return x;
+    }
+
     private static void due(String what, int got, int want) {
         if (got != want) {
             wrong++;
@@ -140,7 +241,7 @@ public final class ModelTest {
         if (find(u, v) >= 0) {
             return 0;
         }
-        if (edges.size() == 30) {
+        if (edges.size() == MOST_EDGES) {
             return -2;
         }
         int before = parts();
